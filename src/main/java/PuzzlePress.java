@@ -160,7 +160,16 @@ public final class PuzzlePress {
     }
 
     public int grade() {
-        return gradeNow();
+        long first = atFirst();
+        int found = reasoner.countFillings(now, first, 2);
+        if (found != 1) {
+            return found == 0 ? GRADE_NO_FILLING : GRADE_SEVERAL;
+        }
+        // A filling is never reasoned away, so every cell keeps one candidate at least.
+        if (Long.bitCount(reasoner.byLines(first)) == now.cells) {
+            return GRADE_BY_LINES;
+        }
+        return Long.bitCount(reasoner.byBoth(now, first)) == now.cells ? GRADE_BY_BOTH : GRADE_BY_NEITHER;
     }
 
     public int full() throws NoSuchElementException {
@@ -180,13 +189,17 @@ public final class PuzzlePress {
         if (most < GRADE_BY_LINES || most > GRADE_BY_NEITHER) {
             throw new IllegalArgumentException();
         }
-        if (!isAsEasyAs(most)) {
+        if (!isEasy(grade(), most)) {
             throw new IllegalStateException();
         }
         int went = 0;
         for (int cell = 0; cell < now.cells; cell++) {
-            if (givens[cell] != NONE && goesWithout(cell, most)) {
+            int before = givens[cell];
+            givens[cell] = NONE;
+            if (before != NONE && isEasy(grade(), most)) {
                 went++;
+            } else {
+                givens[cell] = before;
             }
         }
         left = atFirst();
@@ -234,33 +247,8 @@ public final class PuzzlePress {
         return reasoner.firstFound;
     }
 
-    private int gradeNow() {
-        long first = atFirst();
-        int found = reasoner.countFillings(now, first, 2);
-        if (found != 1) {
-            return found == 0 ? GRADE_NO_FILLING : GRADE_SEVERAL;
-        }
-        // A filling is never reasoned away, so every cell keeps one candidate at least.
-        if (Long.bitCount(reasoner.byLines(first)) == now.cells) {
-            return GRADE_BY_LINES;
-        }
-        return Long.bitCount(reasoner.byBoth(now, first)) == now.cells ? GRADE_BY_BOTH : GRADE_BY_NEITHER;
-    }
-
-    private boolean isAsEasyAs(int most) {
-        int grade = gradeNow();
+    private static boolean isEasy(int grade, int most) {
         return grade != GRADE_NO_FILLING && grade <= most;
-    }
-
-    /** Takes a cell's given away, and puts it back if the puzzle does not stay easy without it. */
-    private boolean goesWithout(int cell, int most) {
-        int before = givens[cell];
-        givens[cell] = NONE;
-        if (isAsEasyAs(most)) {
-            return true;
-        }
-        givens[cell] = before;
-        return false;
     }
 
     /** How a kind of puzzle is laid out, and which units it has. Sets of cells are ints, a bit for each cell. */
@@ -599,7 +587,8 @@ public final class PuzzlePress {
         private static final int MOST_WAYS = 326;
 
         private final long[] scopes = new long[MOST_UNITS];
-        private final int[] ends = new int[MOST_UNITS];
+        /** Behind the last unit stands where the ways end. */
+        private final int[] starts = new int[MOST_UNITS + 1];
         private final long[] ways = new long[MOST_WAYS];
         private int count;
         private int fixed;
@@ -621,22 +610,23 @@ public final class PuzzlePress {
         void begin(long scope) {
             if (count < MOST_UNITS) {
                 scopes[count] = scope;
-                ends[count] = startOf(count);
                 count++;
+                starts[count] = starts[count - 1];
             }
         }
 
         void addWay(long way) {
-            if (count > 0 && ends[count - 1] < MOST_WAYS) {
-                ways[ends[count - 1]] = way;
-                ends[count - 1]++;
+            int end = starts[count];
+            if (count > 0 && end < MOST_WAYS) {
+                ways[end] = way;
+                starts[count] = end + 1;
             }
         }
 
         /** Whether each unit can be met by itself: of one without cells the candidates tell nothing. */
         boolean haveWays() {
             for (int unit = 0; unit < count; unit++) {
-                if (startOf(unit) == ends[unit]) {
+                if (starts[unit] == starts[unit + 1]) {
                     return false;
                 }
             }
@@ -679,16 +669,12 @@ public final class PuzzlePress {
         private long keptBy(int unit, long from) {
             long missing = ~from;
             long kept = ~scopes[unit];
-            for (int way = startOf(unit); way < ends[unit]; way++) {
+            for (int way = starts[unit]; way < starts[unit + 1]; way++) {
                 if ((ways[way] & missing) == 0L) {
                     kept |= ways[way];
                 }
             }
             return kept;
-        }
-
-        private int startOf(int unit) {
-            return unit == 0 ? 0 : ends[unit - 1];
         }
     }
 

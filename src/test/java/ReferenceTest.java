@@ -83,7 +83,8 @@ public final class ReferenceTest {
     }
 
     private int group(int cell, int group) {
-        return both("group(" + cell + "," + group + ")", () -> press.group(cell, group), () -> model.group(cell, group));
+        return both("group(" + cell + "," + group + ")",
+                () -> press.group(cell, group), () -> model.group(cell, group));
     }
 
     private void rule(int group, int rule, int number) {
