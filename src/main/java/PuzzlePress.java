@@ -368,19 +368,16 @@ public final class PuzzlePress {
             }
         }
 
-        @Override
         void makeNew() {
             for (int line = 0; line < LINES; line++) {
                 clues[line] = 0;
             }
         }
 
-        @Override
         void addFixedUnits(Units units) {
             // Each line hangs on its clue.
         }
 
-        @Override
         void addOtherUnits(Units units) {
             for (int line = 0; line < LINES; line++) {
                 units.begin(scopeOf(line < SIDE ? rowCells(line) : columnCells(line - SIDE)));
@@ -448,7 +445,6 @@ public final class PuzzlePress {
             return rule == FREE || rule == SUM || rule == PRODUCT;
         }
 
-        @Override
         void makeNew() {
             for (int group = 0; group < GROUPS; group++) {
                 groupOf[group] = group;
@@ -457,7 +453,6 @@ public final class PuzzlePress {
             }
         }
 
-        @Override
         void addFixedUnits(Units units) {
             for (int line = 0; line < SIDE; line++) {
                 addUnlike(units, rowCells(line), FREE, 0);
@@ -465,7 +460,6 @@ public final class PuzzlePress {
             }
         }
 
-        @Override
         void addOtherUnits(Units units) {
             for (int group = 0; group < GROUPS; group++) {
                 addUnlike(units, membersOf(group), rules[group], numbers[group]);
@@ -516,14 +510,12 @@ public final class PuzzlePress {
             super(SIDE, 0, 2, GROUPS);
         }
 
-        @Override
         void makeNew() {
             for (int cell = 0; cell < cells; cell++) {
                 groupOf[cell] = cell / SIDE;
             }
         }
 
-        @Override
         void addFixedUnits(Units units) {
             for (int line = 0; line < SIDE; line++) {
                 addJustOne(units, rowCells(line));
@@ -538,7 +530,6 @@ public final class PuzzlePress {
             }
         }
 
-        @Override
         void addOtherUnits(Units units) {
             for (int group = 0; group < GROUPS; group++) {
                 int members = membersOf(group);

@@ -42,6 +42,7 @@ public final class PromisesTest {
         clueConditions();
         group();
         groupConditions();
+        starsThatTouch();
         rule();
         ruleConditions();
         widestSquare();
@@ -215,10 +216,14 @@ public final class PromisesTest {
         due("2: cells of group 1 behind open(1)", press.rule(1, 0, 0), 1);
         due("2: value(7) behind open(1)", press.value(7), 3);
         press.open(2);
+        press.group(0, 4);
         press.group(7, 4);
+        press.group(24, 0);
         press.give(0, 1);
         press.open(2);
+        due("2: the group of cell 0 behind open(2)", press.group(0, 0), 0);
         due("2: the group of cell 7 behind open(2)", press.group(7, 1), 1);
+        due("2: the group of cell 24 behind open(2)", press.group(24, 4), 4);
         due("2: given(0) behind open(2)", press.given(0), NONE);
         press.open(1);
         due("2: candidates behind open(2) and open(1)", press.fresh(), 64);
@@ -349,6 +354,25 @@ public final class PromisesTest {
         due("5: group(24, 1) with a star at 7", two.group(24, 1), 4);
         two.reason(1);
         due("5: candidates(24) in the group of the star at 7", two.candidates(24), 1);
+    }
+
+    /** With one star given, rule 1 clears its row, its column and what touches it. */
+    private static void starsThatTouch() {
+        for (int star = 0; star < 25; star++) {
+            PuzzlePress press = opened(2);
+            press.give(star, 1);
+            press.reason(1);
+            for (int cell = 0; cell < 25; cell++) {
+                int down = Math.abs(cell / 5 - star / 5);
+                int across = Math.abs(cell % 5 - star % 5);
+                boolean clear = down == 0 || across == 0 || down == 1 && across == 1;
+                int want = cell == star ? 0b10 : clear ? 0b01 : press.candidates(cell);
+                due("12: candidates(" + cell + ") with a star at " + star, press.candidates(cell), want);
+            }
+        }
+        PuzzlePress press = opened(2);
+        press.give(0, 1);
+        due("12: reason(1) with a star at 0", press.reason(1), 40);
     }
 
     private static void rule() {
@@ -577,9 +601,11 @@ public final class PromisesTest {
         press.reason(1);
         press.open(0);
         due("candidates behind open", totalOf(press), 50);
-        press.reason(1);
         press.full();
         due("candidates behind full", totalOf(press), 25);
+        press.clue(0, 5);
+        press.reason(1);
+        press.clue(0, 0);
         press.give(0, NONE);
         press.reason(1);
         press.full();
