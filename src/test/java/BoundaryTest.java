@@ -371,7 +371,15 @@ public final class BoundaryTest {
 
     /** Stars: "each group that has cells, is a unit: just one cell is 1" */
     private static void starsOfTheGroups() {
-        // A group of one cell has its star there; groups of none take nothing away.
+        // A group of one cell has its star there.
+        for (int cell = 0; cell < 25; cell++) {
+            PuzzlePress alone = opened(2);
+            for (int other = 0; other < 25; other++) {
+                alone.group(other, other == cell ? 4 : 0);
+            }
+            due("group 4 of cell " + cell + " alone, step()", alone.step(), 1000 + 10 * cell);
+        }
+        // Groups of none take nothing away.
         PuzzlePress one = opened(2);
         for (int cell = 0; cell < 4; cell++) {
             one.group(cell, 1);

@@ -112,19 +112,20 @@ public final class RefusalTest {
         setups.add(new Setup("a picture after steps", 0, 2, null,
                 () -> stepped(picture(12, 11, 11, 3, 1, 11, 2, 11, 12, 11), 3)));
         setups.add(new Setup("a picture of two fillings", 0, 4, null, RefusalTest::twoWays));
-        setups.add(new Setup("a picture that is full", 0, 1, null, () -> filled(twoWays())));
+        setups.add(new Setup("a picture but one cell full", 0, 1, null, () -> filled(twoWays())));
+        setups.add(new Setup("a picture all full", 0, 1, null, RefusalTest::allFull));
         setups.add(new Setup("a picture without a filling", 0, 0, null, () -> stepped(picture(5, 0, 111), 7)));
         setups.add(new Setup("a picture without candidates", 0, 0, null, () -> reasoned(picture(5, 0, 111), 1)));
         setups.add(new Setup("a new square", 1, 4, ALL_APART, () -> grouped(1, ALL_APART)));
         setups.add(new Setup("a square after steps", 1, 2, CAGES, () -> stepped(cages(), 5)));
         setups.add(new Setup("a square of full groups", 1, 4, FOURS, RefusalTest::fours));
-        setups.add(new Setup("a square that is full", 1, 1, FOURS, () -> filled(fours())));
+        setups.add(new Setup("a square but one cell full", 1, 1, FOURS, () -> filled(fours())));
         setups.add(new Setup("a square without a filling", 1, 0, CAGES, RefusalTest::spoiltCages));
         setups.add(new Setup("a square with a wrong group of none", 1, 0, CAGES, RefusalTest::spoiltByNone));
         setups.add(new Setup("new stars", 2, 4, BY_ROWS, () -> grouped(2, BY_ROWS)));
         setups.add(new Setup("stars after steps", 2, 2, HARD_STARS, () -> stepped(grouped(2, HARD_STARS), 9)));
         setups.add(new Setup("the hardest stars", 2, 3, HARDEST_STARS, () -> grouped(2, HARDEST_STARS)));
-        setups.add(new Setup("stars that are full", 2, 1, HARD_STARS, () -> filled(grouped(2, HARD_STARS))));
+        setups.add(new Setup("stars but one cell full", 2, 1, HARD_STARS, () -> filled(grouped(2, HARD_STARS))));
         setups.add(new Setup("stars in one group", 2, 0, IN_ONE, () -> stepped(grouped(2, IN_ONE), 2)));
         return setups;
     }
@@ -141,6 +142,12 @@ public final class RefusalTest {
         PuzzlePress press = picture(1, 1, 0, 0, 0, 1, 1);
         press.give(24, 0);
         return reasoned(press, 1);
+    }
+
+    private static PuzzlePress allFull() {
+        PuzzlePress press = picture(12, 11, 11, 3, 1, 11, 2, 11, 12, 11);
+        press.full();
+        return press;
     }
 
     private static PuzzlePress grouped(int kind, int[] groups) {
@@ -197,10 +204,10 @@ public final class RefusalTest {
         return press;
     }
 
-    /** A call that is refused must not bring back the candidates that are missing here. */
+    /** The first and the last cell have givens; one has none, and a refused call must not bring its candidates back. */
     private static PuzzlePress filled(PuzzlePress press) {
         press.full();
-        press.give(0, PuzzlePress.NONE);
+        press.give(7, PuzzlePress.NONE);
         return reasoned(press, 1);
     }
 
