@@ -60,7 +60,6 @@ public final class PromisesTest {
         full();
         thin();
         thinOrder();
-        readme();
         System.out.println(wrong == 0 ? "all promises hold" : wrong + " answers are not as promised");
         if (wrong != 0) {
             System.exit(1);
@@ -809,18 +808,5 @@ public final class PromisesTest {
         due("17: the first one goes", hard.given(0), NONE);
         due("17: the last one stays", hard.given(15), hard.value(15));
         due("17: thin(2) with one given", hard.thin(2), 1);
-    }
-
-    /** What README.md shows. */
-    private static void readme() {
-        PuzzlePress press = new PuzzlePress();
-        press.clue(0, 111);
-        press.clue(5, 1);
-        press.clue(7, 1);
-        press.clue(9, 1);
-        due("README: grade()", press.grade(), 1);
-        due("README: step()", press.step(), 1000);
-        due("README: full()", press.full(), 25);
-        due("README: thin(1)", press.thin(1), 25);
     }
 }
